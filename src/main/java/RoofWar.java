@@ -1155,12 +1155,12 @@ public final class RoofWar {
             int top = 0;
             for (int i = 0; i < law.length; i++) {
                 int code = law.codes[i];
-                if (code < Law.OPERATION) {
+                if (code < Law.OPERATION && top < MOST_BYTES) {
                     stack[top] = code >= 0 ? code : named(-1 - code, first, second, third);
                     top++;
-                } else if (code == Law.OPERATION + '!') {
+                } else if (code == Law.OPERATION + '!' && top >= 1) {
                     stack[top - 1] = stack[top - 1] == 0 ? 1 : 0;
-                } else {
+                } else if (code > Law.OPERATION && top >= 2) {
                     top--;
                     stack[top - 1] = joined(code - Law.OPERATION, stack[top - 1], stack[top]);
                 }

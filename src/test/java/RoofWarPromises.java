@@ -231,7 +231,8 @@ public final class RoofWarPromises {
         due("rule what -1", x.rule(-1, 0), BAD);
         due("strength 0", x.rule(0, 99), 12);
         due("strength 1", x.rule(1, 0), 12);
-        due("rain", x.rule(2, 100), 40);
+        due("rain", x.rule(2, 0), 40);
+        due("rain 0", x.rule(2, 100), 0);
         due("strength 0 now", x.rule(0, 1), 99);
         due("strength 1 now", x.count(3), 0);
         due("rain now", x.count(4), 100);
@@ -331,6 +332,30 @@ public final class RoofWarPromises {
         draw();
         due("no home", x.nights(1), 0);
         due("one draw, for rain", x.count(8), drawn);
+
+        // of three that may be carried, the one by the rest of the first draw
+        for (int seed = 0; seed < 12; seed++) {
+            x = new RoofWar();
+            x.seed(seed * 1000003);
+            drawn = seed * 1000003;
+            x.roof(0, 9, 0, 0);
+            x.roof(0, 1, 0, 5);
+            x.roof(0, 1, 0, 4);
+            x.roof(0, 1, 0, 3);
+            int which = 1 + draw() % 3;
+            x.nights(1);
+            for (int r = 1; r < 4; r++) {
+                due("one of three, seed " + seed, x.told(r, 3), r == which ? 6 : 6 - r);
+            }
+        }
+
+        x = new RoofWar();
+        x.rule(2, 100);
+        for (int h = 0; h < 12; h++) {
+            x.lodges(h, 0, h % 2);
+        }
+        x.nights(1);
+        due("one is enough to be wet", x.hill(2), 120);
 
         x = new RoofWar();
         for (int i = 0; i < 99; i++) {
@@ -440,6 +465,10 @@ public final class RoofWarPromises {
         x.rule(0, 12);
         x.steals(0);
         due("spite by size and night", x.told(0, 2), 23);
+        reads(x, "spite 0");
+        x.rule(1, 12);
+        x.steals(0);
+        due("spite 0", x.told(0, 2), 23);
     }
 
     private static void fits() {
@@ -456,6 +485,15 @@ public final class RoofWarPromises {
         x.lodges(9, 0, 9);
         int[] want = {2, 1, NONE, 0, NONE, NONE};
         due("dry", x.fits(1, -1), 7);
+        x.lodges(6, 0, 9);
+        x.lodges(7, 0, 0);
+        x.lodges(8, 0, 0);
+        x.lodges(9, 0, 1);
+        due("dry with the first house", x.fits(1, -1), 7);
+        x.lodges(9, 0, 9);
+        x.lodges(6, 0, 1);
+        x.lodges(7, 0, 3);
+        x.lodges(8, 0, 3);
         for (int k = 0; k < 6; k++) {
             due("fits 1 " + k, x.fits(1, k), want[k]);
         }
@@ -571,6 +609,26 @@ public final class RoofWarPromises {
             far = n != NONE && n > 100 ? far + 1 : far;
         }
         due("some are gone behind more than 100", far > 0 ? 1 : 0, 1);
+        int last = 0;
+        int beyond = 0;
+        for (int seed = 0; seed < 50000 && (last == 0 || beyond == 0); seed++) {
+            x = new RoofWar();
+            x.roof(0, 1, 0, 0);
+            x.lodges(0, 1, 99);
+            x.seed(seed);
+            x.rule(0, 0);
+            int n = x.gone(0);
+            x.nights(1);
+            int later = x.gone(0);
+            if (n == 200) {
+                last++;
+                due("gone behind 200", later, 199);
+            } else if (later == 200) {
+                beyond++;
+                due("gone behind 201", n, NONE);
+            }
+        }
+        due("gone behind 200 and 201 are both tried", last > 0 && beyond > 0 ? 1 : 0, 1);
     }
 
     private static void guardAndBecomes() {
@@ -592,6 +650,8 @@ public final class RoofWarPromises {
             due("becomes n " + v, x.becomes(0, v, 0), BAD);
         }
         due("guard n 60", x.guard(0, 60, 0), 2);
+        due("guard n 1", x.guard(0, 1, 0), 2);
+        due("becomes n 1", x.becomes(0, 1, 1), 0);
         for (int v : new int[] {-1, 1, Integer.MIN_VALUE, Integer.MAX_VALUE}) {
             due("becomes roof " + v, x.becomes(v, 1, 0), BAD);
         }
@@ -641,6 +701,12 @@ public final class RoofWarPromises {
         x.mark(0, 2, 6);
         due("like the one that is gone", x.like(0, 0), 2);
         due("place 0 is now", x.like(0, 1), x.behind(2, 7) == 6 ? 3 : 2);
+        x.lodges(4, 1, 100);
+        for (int k = 0; k < 4; k++) {
+            x.mark(0, k, 4);
+        }
+        due("like roof 0", x.like(0, 0), 0);
+        due("like roof 0 at all", x.like(0, 1), 4);
         x.sheet(1, 0, 0);
         due("like by no places", x.like(1, 0), 0);
         due("at no places", x.like(1, 1), 0);
@@ -694,13 +760,15 @@ public final class RoofWarPromises {
             "spite t", "fee t", "fee l", "fine n", "fine s", "spite ls", "fee(t)", "fee!t", "fee 12345", "fee 0000",
             "fee 1<2<3", "fee 1<2&2<3|4=4", "fee (1", "fee (1))", "fee ()", "fee +1", "fee 1 +", "fee 1+-1", "fee 1 2",
             "fee t,", "Fee t", "fee t\u0000", "\tfee t", "fee 1=", "fee (1<2)<3", "fee !!t", "fee 1!2", "fee 1&&2",
-            "  fee  (  t  )  ", "fee t  x", "5 fee t", "fee spite", "fee \u00ff", "fine (l|s", "fee 1(2)"};
+            "  fee  (  t  )  ", "fee t  x", "5 fee t", "fee spite", "fee \u00ff", "fine (l|s", "fee 1(2)",
+            "fee ta", "fee tz", "fee t`", "fee t{", "fee 1/0", "fee 9999:", "xee t", "fex t", "fee (t", "fee t)"};
         int[] want = {
             0, 3, 0, 0, 5, 6, -1, 8, 7, 5, 7,
             6, -1, 4, 5, -1, 6, -1, -1, 4, -1,
             7, -1, 6, 7, 5, 4, 7, 6, 6,
             5, 0, 5, 0, 6, -1, -1, 5, 6,
-            -1, 7, 0, 4, 4, 9, 5};
+            -1, 7, 0, 4, 4, 9, 5,
+            4, 4, 5, 5, -1, 8, 0, 0, 6, 5};
         RoofWar x = new RoofWar();
         int told = 0;
         for (int i = 0; i < texts.length; i++) {
@@ -709,6 +777,11 @@ public final class RoofWarPromises {
             due("tape used up", x.count(7), 0);
             due("texts", x.count(5), told);
         }
+        x = new RoofWar();
+        due("fault behind some of a text", reads(x, "fee 3+4*t)"), -109);
+        due("text behind a fault", reads(x, "fee 8"), 0);
+        due("leaves of that text", x.textTold(0, 1), 1);
+        due("it gives", x.fee(), 8);
         x = new RoofWar();
         due("eight brackets", reads(x, "fee ((((((((t))))))))"), 0);
         due("nine brackets", reads(x, "fee (((((((((t)))))))))"), -112);
@@ -760,12 +833,14 @@ public final class RoofWarPromises {
             "1+2*3", "7/2", "0-7/2", "(0-7)/2", "5/0", "5/0+1", "8-3-2", "100/10/5", "2<3", "3<2", "2=2", "2>3", "3>2",
             "1+1<3", "1<2&3", "0&1", "0|5", "0|0", "1&0|1", "1|1&0", "!0", "!5", "!0+1", "!!7", "!(1<2)", "!1*5+2",
             "9999*9999*9999", "(0-9999)*9999*22+22", "1=1=1|1", "2*(3+4)", "0-1&1", "3-!0", "1|0&0", "0&0|1", "2+3=5&1",
-            "(1<2)+(2<3)", "8/2*3", "t", "w+3"};
+            "(1<2)+(2<3)", "8/2*3", "t", "w+3",
+            "2<2", "2>2", "2=3", "3=2", "0000+0", "0&0", "5&7", "5|7"};
         int[] want = {
             7, 3, -3, -3, 0, 1, 3, 2, 1, 0, 1, 0, 1,
             1, 1, 0, 1, 0, 1, 1, 1, 0, 2, 1, 0, 2,
             9999 * 9999 * 9999, -9999 * 9999 * 22 + 22, BAD, 14, 1, 2, 1, 1, 1,
-            2, 12, 0, 3};
+            2, 12, 0, 3,
+            0, 0, 0, 0, 0, 0, 1, 1};
         for (int i = 0; i < texts.length; i++) {
             if (want[i] != BAD) {
                 due("fee " + texts[i], fee(texts[i]), want[i]);
@@ -996,6 +1071,8 @@ public final class RoofWarPromises {
             due("one is missing", x.check(n), 2 * n);
             tellAll(x, nights, 2 * n, 2 * n - 1);
             due("the last is not", x.check(n), 2 * n);
+            tellAll(x, nights, 2 * n, 2 * n - 2);
+            due("the last but one is not", x.check(n), 2 * n - 1);
             tellAll(x, nights, 2 * n, 0);
             due("the first is not", x.check(n), 1);
             if (n < 30) {
