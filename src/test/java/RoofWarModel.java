@@ -4,16 +4,7 @@ import java.util.LinkedHashSet;
 import java.util.List;
 
 // Long runs of calls by lot, each answered by the class and by a second, plainer telling of ../shared/DOC.md.
-public final class RoofWarModel {
-    private static final int BAD = -1000000001;
-    private static final int NO = -1000000002;
-    private static final int FULL = -1000000003;
-    private static final int NONE = -1000000005;
-    private static final int NOTHING = -1000000011;
-    private static final int KIND = -1000000012;
-    private static final int INDEX = -1000000013;
-    private static final int SIZE = -1000000014;
-
+public final class RoofWarModel extends Due {
     // ---- the model: kinds as classes under one another
 
     private static class Roof {
@@ -977,54 +968,6 @@ public final class RoofWarModel {
         return way == 2 ? most + 1 : least + lot(most - least + 1);
     }
 
-    private static int real(RoofWar x, String call, int a, int b, int c, int d, int e) {
-        switch (call) {
-            case "roof": return x.roof(a, b, c, d);
-            case "told": return x.told(a, b);
-            case "as": return x.as(a, b);
-            case "turns": return x.turns(a, b);
-            case "set": return x.set(a, b, c);
-            case "moves": return x.moves(a, b);
-            case "house": return x.house(a, b);
-            case "lodges": return x.lodges(a, b, c);
-            case "rule": return x.rule(a, b);
-            case "deal": return x.deal(a);
-            case "seed": return x.seed(a);
-            case "nights": return x.nights(a);
-            case "hill": return x.hill(a);
-            case "loot": return x.loot(a, b);
-            case "steals": return x.steals(a);
-            case "fits": return x.fits(a, b);
-            case "prize": return x.prize(a, b);
-            case "behind": return x.behind(a, b);
-            case "gone": return x.gone(a);
-            case "guard": return x.guard(a, b, c);
-            case "becomes": return x.becomes(a, b, c);
-            case "like": return x.like(a, b);
-            case "fee": return x.fee();
-            case "fine": return x.fine(a);
-            case "feed": return x.feed(a, b, c);
-            case "trim": return x.trim(a);
-            case "text": return x.text();
-            case "textTold": return x.textTold(a, b);
-            case "why": return x.why(a);
-            case "sheet": return x.sheet(a, b, c);
-            case "mark": return x.mark(a, b, c);
-            case "pour": return x.pour(a);
-            case "reads": return x.reads(a);
-            case "copy": return x.copy(a, b, c, d, e);
-            case "lay": return x.lay(a, b, c);
-            case "ask": return x.ask(a, b);
-            case "item": return x.item(a, b);
-            case "rest": return x.rest(a, b);
-            case "tell": return x.tell(a);
-            case "check": return x.check(a);
-            case "keep": return x.keep();
-            case "back": return x.back();
-            default: return x.count(a);
-        }
-    }
-
     private int[] argumentsFor(String call) {
         int roofs = Math.max(0, now.roofs.size() - 1);
         int what;
@@ -1078,7 +1021,7 @@ public final class RoofWarModel {
             return 0;
         }
         int[] v = Arrays.copyOf(given, 5);
-        int got = real(real, call, v[0], v[1], v[2], v[3], v[4]);
+        int got = answerOf(real, call, v);
         int want = answer(call, v[0], v[1], v[2], v[3], v[4]);
         calls++;
         if (got != want) {

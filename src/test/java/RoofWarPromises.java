@@ -1,60 +1,5 @@
 // Each promise of ../shared/DOC.md by hand: ordinary inputs, the edges it names, wrong inputs in their order.
-public final class RoofWarPromises {
-    private static final int BAD = -1000000001;
-    private static final int NO = -1000000002;
-    private static final int FULL = -1000000003;
-    private static final int NONE = -1000000005;
-    private static final int NOTHING = -1000000011;
-    private static final int KIND = -1000000012;
-    private static final int INDEX = -1000000013;
-    private static final int SIZE = -1000000014;
-    private static final int[] BOTH_ENDS = {Integer.MIN_VALUE, Integer.MAX_VALUE};
-
-    private static int wrong = 0;
-    private static int rows = 0;
-    private static int drawn = 1;
-
-    private static void due(String call, int got, int want) {
-        rows++;
-        if (got != want) {
-            wrong++;
-            System.out.println(call + " answered " + got + ", due is " + want);
-        }
-    }
-
-    private static int draw() {
-        drawn = drawn * 1103515245 + 12345;
-        return drawn >>> 8;
-    }
-
-    /** Puts the letters on the tape and reads them. */
-    private static int reads(RoofWar x, String letters) {
-        puts(x, letters);
-        return x.text();
-    }
-
-    private static void puts(RoofWar x, String letters) {
-        int before = x.count(7);
-        for (int i = 0; i < letters.length(); i += 12) {
-            x.feed(four(letters, i), four(letters, i + 4), four(letters, i + 8));
-        }
-        x.trim(before + letters.length());
-    }
-
-    private static int four(String letters, int from) {
-        int v = 0;
-        for (int i = from; i < from + 4; i++) {
-            v = v << 8 | (i < letters.length() ? letters.charAt(i) & 255 : 'x');
-        }
-        return v;
-    }
-
-    private static int fee(String expression) {
-        RoofWar x = new RoofWar();
-        due("text() of fee " + expression, reads(x, "fee " + expression), 0);
-        return x.fee();
-    }
-
+public final class RoofWarPromises extends Due {
     private static void newObject() {
         RoofWar x = new RoofWar();
         int[] counts = {0, 0, 12, 12, 40, 0, 0, 0, 1};
@@ -1238,9 +1183,6 @@ public final class RoofWarPromises {
         images();
         checkByTheTextsOfTheImage();
         count();
-        System.out.println(wrong == 0 ? rows + " answers are as due" : wrong + " answers are not as due");
-        if (wrong != 0) {
-            System.exit(1);
-        }
+        end();
     }
 }
