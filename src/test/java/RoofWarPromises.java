@@ -998,17 +998,10 @@ public final class RoofWarPromises extends Due {
         due("check 31", x.check(31), BAD);
         due("none wait", x.count(6), 0);
 
-        x.deal(6);
-        x.rule(0, 99);
-        x.keep();
-        int[] nights = new int[60];
-        for (int i = 0; i < 30; i++) {
-            x.nights(1);
-            nights[2 * i] = x.hill(0);
-            nights[2 * i + 1] = x.hill(5);
-        }
-        int z = x.count(8);
         for (int n = 1; n <= 30; n += 7) {
+            x = new RoofWar();
+            int[] nights = nightsKept(x);
+            int z = x.count(8);
             tellAll(x, nights, 2 * n, -1);
             due("check " + n, x.check(n), 0);
             due("none wait", x.count(6), 0);
@@ -1026,10 +1019,25 @@ public final class RoofWarPromises extends Due {
                 due("one too many", x.check(n), 2 * n + 1);
             }
             due("all are missing", x.check(n), 1);
+            due("nothing changed", x.count(8), z);
         }
-        tellAll(x, nights, 60, -1);
+        x = new RoofWar();
+        tellAll(x, nightsKept(x), 60, -1);
         due("check 30", x.check(30), 0);
-        due("nothing changed", x.count(8), z);
+    }
+
+    /** Keeps an image; STOLEN and LEAK of all behind each of 30 nights from there on. */
+    private static int[] nightsKept(RoofWar x) {
+        x.deal(6);
+        x.rule(0, 99);
+        x.keep();
+        int[] nights = new int[60];
+        for (int i = 0; i < 30; i++) {
+            x.nights(1);
+            nights[2 * i] = x.hill(0);
+            nights[2 * i + 1] = x.hill(5);
+        }
+        return nights;
     }
 
     private static void tellAll(RoofWar x, int[] nights, int many, int otherwise) {

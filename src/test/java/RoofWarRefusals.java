@@ -105,11 +105,8 @@ public final class RoofWarRefusals extends Due {
 
     // ---- the hills
 
-    private static RoofWar made(int hill, boolean waiting) {
+    private static RoofWar kept() {
         RoofWar x = new RoofWar();
-        if (hill == NEW) {
-            return x;
-        }
         x.seed(99);
         reads(x, "spite 7");
         reads(x, "fee t*100+w");
@@ -118,16 +115,20 @@ public final class RoofWarRefusals extends Due {
         x.lodges(1, 1, 30);
         x.lodges(7, 0, 5);
         x.keep();
-        int nights = hill == ORDINARY ? 2 : 30;
-        int[] told = new int[2 * nights];
-        for (int i = 0; i < nights; i++) {
-            x.nights(1);
-            told[2 * i] = x.hill(0);
-            told[2 * i + 1] = x.hill(5);
+        return x;
+    }
+
+    private static RoofWar made(int hill, boolean waiting) {
+        if (hill == NEW) {
+            return new RoofWar();
         }
-        x.back();
-        for (int i = 0; i < told.length && waiting; i++) {
-            x.tell(told[i]);
+        RoofWar x = kept();
+        RoofWar on = kept();
+        int nights = hill == ORDINARY ? 2 : 30;
+        for (int i = 0; i < nights && waiting; i++) {
+            on.nights(1);
+            x.tell(on.hill(0));
+            x.tell(on.hill(5));
         }
         x.roof(0, 9, 30, 5);
         if (hill == FULL_OF_ALL) {
@@ -203,14 +204,15 @@ public final class RoofWarRefusals extends Due {
     }
 
     private static void askSlot(RoofWar x, int slot, List<Integer> all) {
-        all.add(x.ask(slot, 0));
-        all.add(x.rest(slot, 1000));
-        int answer = 0;
-        for (int place = 0; place < 25 && answer != INDEX && answer != NOTHING; place++) {
-            answer = x.item(slot, place);
-            all.add(answer);
-            if (place == 0 && answer == KIND && x.ask(slot, 0) != KIND) {
-                break;
+        int worth = x.ask(slot, 0);
+        int rest = x.rest(slot, 1000);
+        all.add(worth);
+        all.add(rest);
+        if (worth == KIND && rest == KIND) {
+            int answer = 0;
+            for (int place = 0; place < 25 && answer != INDEX; place++) {
+                answer = x.item(slot, place);
+                all.add(answer);
             }
         }
     }
