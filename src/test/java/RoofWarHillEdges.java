@@ -267,6 +267,10 @@ public final class RoofWarHillEdges extends Due {
         reads(x, "spite l/10+s+n");
         due("carried by night", x.nights(1), 1);
         due("by leak as it was there, size and the night ahead", x.told(0, 2), 20 + 2 + 6 + 3);
+        reads(x, "spite 0");
+        x.rule(0, 12);
+        due("back", x.steals(0), 0);
+        due("0 is 0 in any night", x.told(0, 2), 31);
     }
 
     // ---- section 2
@@ -576,8 +580,15 @@ public final class RoofWarHillEdges extends Due {
         x.deal(10);
         due("what 16: roof 11", x.behind(0, 16), x.told(11, 3));
         due("what 17", x.behind(0, 17), BAD);
+        due("z as it is", x.behind(30, 0), x.behind(30, 0));
+        x = new RoofWar();
+        x.roof(0, 2, 10, 6);
         x.lodges(6, 1, 100);
-        due("z as it is", x.behind(3, 1), x.behind(3, 1));
+        x.nights(4);
+        due("CAUGHT now", x.behind(0, 1), 4);
+        due("CAUGHT behind 3", x.behind(3, 1), 7);
+        due("CAUGHT behind 100", x.behind(100, 1), 104);
+        due("CAUGHT as it was", x.hill(1), 4);
     }
 
     /** "GONE of a ROOF: behind how many NIGHTS (1 .. 200) it is in the other TOWN first." "NONE: not by then." */
@@ -720,6 +731,13 @@ public final class RoofWarHillEdges extends Due {
         x.mark(1, 2, 12);
         due("shorts", x.like(1, 0), 1);
         due("house 0 at place 0 alone", x.like(1, 1), 1);
+        x.deal(12);
+        x.sheet(3, 0, 24);
+        for (int k = 0; k < 24; k++) {
+            x.mark(3, k, x.told(11, 3));
+        }
+        due("twelve roofs: the last one", x.like(3, 0), 11);
+        due("twelve roofs, 24 places", x.like(3, 1), 24);
         x.sheet(2, 1, 0);
         due("no places: the least", x.like(2, 0), 0);
         due("no places: none", x.like(2, 1), 0);
@@ -745,6 +763,8 @@ public final class RoofWarHillEdges extends Due {
         due("a roof as hay", x.as(0, 3), KIND);
         due("size and leak stay", x.told(0, 1) * 100 + x.told(0, 2), 999);
         due("set to what it is", x.set(0, 1, 9), 9);
+        due("leak to 0", x.set(0, 2, 0), 99);
+        due("leak to 99", x.set(0, 2, 99), 0);
         due("set what 0", x.set(0, 0, 0), BAD);
         due("set what 3", x.set(0, 3, 7), BAD);
         due("moves over its own house", x.moves(0, 6), NO);

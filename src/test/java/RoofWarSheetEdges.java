@@ -148,6 +148,12 @@ public final class RoofWarSheetEdges extends Due {
         x.sheet(2, SHORTS, 24);
         due("more places than roofs", x.pour(2), 6);
         due("leak of all", x.hill(5), 0);
+        x.deal(12);
+        for (int k = 0; k < 24; k++) {
+            x.mark(2, k, 60 + k);
+        }
+        due("twelve roofs, 24 places", x.pour(2), 12);
+        due("leak of roof 11", x.told(11, 2), 71);
     }
 
     /** "The first place (of numbers alone) at which a SHEET is not the HOUSE of that ROOF (of places that are no ROOF ..)". */
@@ -392,7 +398,9 @@ public final class RoofWarSheetEdges extends Due {
         x.rule(0, 1);
         x.rule(1, 99);
         x.rule(2, 100);
+        x.lodges(0, 1, 100);
         x.nights(2);
+        due("CAUGHT is more than 0", x.hill(1), 2);
         reads(x, "fee 1");
         x.seed(-5);
         int[] hill = new int[6];

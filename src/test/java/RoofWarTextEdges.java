@@ -70,6 +70,18 @@ public final class RoofWarTextEdges extends Due {
         due("a fault", reads(x, "fee ) 1"), at(4));
         due("used up by a fault", x.count(7), 0);
         due("none came by a fault", x.count(5), 1);
+        // what a text leaves behind that stopped at a word, or within brackets and nots, is nothing to the next one
+        due("a fault at a name", reads(x, "fee 1+2+x"), at(8));
+        due("a text right behind it", reads(x, "fee 3"), 1);
+        due("its numbers alone", x.textTold(1, 1), 1);
+        due("a fault at a number", reads(x, "fee 1 2"), at(6));
+        due("a text right behind it", reads(x, "fine 4"), 2);
+        due("a fault within all brackets and nots", reads(x, "fee ((((((((!!!!!!!!x"), at(20));
+        due("all brackets and nots", reads(x, "fee ((((((((!!!!!!!!5))))))))"), 3);
+        due("it gives", x.fee(), 1);
+        due("a fault behind a not", reads(x, "fee !6 6"), at(7));
+        due("a text right behind it", reads(x, "fee 6"), 4);
+        due("it gives", x.fee(), 6);
     }
 
     // ---- "KEY E. KEY: spite | fee | fine."
@@ -82,6 +94,9 @@ public final class RoofWarTextEdges extends Due {
             textIs(KEYS[key], at(KEYS[key].length()));
             textIs(KEYS[key] + " ", at(KEYS[key].length() + 1));
             textIs(KEYS[key].substring(1) + " 1", at(0));
+            for (int i = 0; i < KEYS[key].length(); i++) {
+                textIs(KEYS[key].substring(0, i) + "x" + KEYS[key].substring(i + 1) + " 1", at(0));
+            }
             textIs(KEYS[key] + "s 1", at(0));
             textIs(KEYS[key] + "1", at(KEYS[key].length()));
             textIs(KEYS[key] + KEYS[key] + " 1", at(0));
@@ -100,10 +115,10 @@ public final class RoofWarTextEdges extends Due {
     private static void levels() {
         String[] texts = {
             "1|1&0", "0&1|1", "1|0|0", "1&0=0", "0=1&0", "1=1|0", "2=1+1", "1+1=2", "3>1+1", "1+1<3", "1+2*3", "2*3+1",
-            "9-4/2", "9/3-1", "!0*5", "!1+5", "!0=1", "!(0*5)", "(1|1)&0", "0=(1&0)", "(1=1)+1", "2*(3+1)", "1-2-3", "24/4/2",
+            "9-4/2", "9/3-1", "!0*5", "!1+5", "3-!0", "!0=1", "!(0*5)", "(1|1)&0", "0=(1&0)", "(1=1)+1", "2*(3+1)", "1-2-3", "24/4/2",
             "24/4*2", "9-4+2", "(1<2)<3", "1<2&2<1", "1<2|2<1", "7=7", "7=8", "7<8", "8<7", "7<7", "8>7", "7>8", "7>7"};
         int[] want = {
-            1, 1, 1, 1, 0, 1, 1, 1, 1, 1, 7, 7, 7, 2, 5, 5, 1, 1, 0, 1, 2, 8, -4, 3, 12, 7, 1, 0, 1, 1, 0, 1, 0, 0, 1, 0, 0};
+            1, 1, 1, 1, 0, 1, 1, 1, 1, 1, 7, 7, 7, 2, 5, 5, 2, 1, 1, 0, 1, 2, 8, -4, 3, 12, 7, 1, 0, 1, 1, 0, 1, 0, 0, 1, 0, 0};
         for (int i = 0; i < texts.length; i++) {
             due("fee " + texts[i], fee(texts[i]), want[i]);
         }
