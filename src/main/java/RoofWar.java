@@ -1210,7 +1210,7 @@ public final class RoofWar {
         /** A word that fits nowhere. */
         private static final int BROKEN = 4;
         private static final int TEST = 2;
-        private static final int PIECE = 5;
+        private static final int TIGHTEST = 4;
         private static final int MOST_OPEN = 8;
 
         private final Tape tape;
@@ -1319,24 +1319,25 @@ public final class RoofWar {
             return false;
         }
 
-        /** Levels from the loosest, 0, to the pieces; goes down into itself, as deep as brackets and nots may be open. */
+        /** A level from the loosest, 0, to the tightest ahead of the pieces; as deep as brackets and nots may be open. */
         private boolean readLevel(int level) {
-            if (level >= PIECE) {
-                return readPiece();
-            }
-            if (!readLevel(level + 1)) {
+            if (!readBelow(level)) {
                 return false;
             }
             int most = level == TEST ? 1 : MOST_BYTES;
             for (int i = 0; i < most && isSign(signs(level)); i++) {
                 int sign = tape.bytes[start];
                 step();
-                if (!readLevel(level + 1)) {
+                if (!readBelow(level)) {
                     return false;
                 }
                 law.addOperation(sign);
             }
             return true;
+        }
+
+        private boolean readBelow(int level) {
+            return level >= TIGHTEST ? readPiece() : readLevel(level + 1);
         }
 
         private boolean readPiece() {

@@ -101,13 +101,22 @@ public final class RoofWarFace {
             due("no '" + word + "' in the class", !m.find());
         }
         due("signs below 128 alone", source.chars().allMatch(c -> c < 128));
+        methodsOf(code);
+    }
+
+    /** Methods of sixty lines at most; one that calls itself is private and static. */
+    private static void methodsOf(String code) {
         int depth = 0;
         int began = 0;
+        String name = "";
         int line = 0;
         for (String row : code.split("\n", -1)) {
             line++;
             if (depth > 0 && row.matches(".*\\) \\{") && row.matches("\\s+((public|private|static) )*[\\w\\[\\]]+ \\w+\\(.*")) {
                 began = line;
+                name = row.contains(" static ") ? "" : row.replaceAll("\\(.*", "").replaceAll(".* ", "");
+            } else if (began > 0 && !name.isEmpty()) {
+                due("no method calls itself that is not static: " + name, !row.matches(".*(?<![.\\w])" + name + "\\(.*"));
             }
             for (char c : row.toCharArray()) {
                 depth += c == '{' ? 1 : c == '}' ? -1 : 0;

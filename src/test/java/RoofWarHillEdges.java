@@ -1,4 +1,4 @@
-// The edges that ../shared/DOC.md names in sections 1 to 3 and promises 1 to 25, sentence by sentence, in its order.
+// The edges that ../shared/DOC.md names in sections 1 to 3 and promises 1 to 23, sentence by sentence, in its order.
 public final class RoofWarHillEdges extends Due {
     private static final String[] KINDS = {"ROOF", "THATCH", "DOME", "HAY", "CUPOLA", "PAINTED"};
 
@@ -743,7 +743,7 @@ public final class RoofWarHillEdges extends Due {
         due("no places: none", x.like(2, 1), 0);
     }
 
-    // ---- promises 1 to 25, where the sections tell no edge yet
+    // ---- promises 1 to 23, where the sections tell no edge yet
 
     private static void roofCalls() {
         RoofWar x = new RoofWar();
